@@ -773,7 +773,7 @@ public final class LoopTypes {
         int firstFailing(Graph x, Graph y, int kind) {
             start(x, y);
             meet(numberOf(0, 0, false), 1, NONE);
-            for (int at = 0; at < pairCount; at++) {
+            for (int at = 0; at < pairCount && at < PAIR_LIMIT; at++) {
                 int pair = pairs[at];
                 boolean about = isAbout(pair);
                 int xHead = left.headAt(leftOf(pair));
@@ -856,7 +856,7 @@ public final class LoopTypes {
             bench.putAll(x);
             bench.putAll(y);
             int root = boundNode(0, 0, up, bench);
-            for (int at = 0; at < pairCount; at++) {
+            for (int at = 0; at < pairCount && at < PAIR_LIMIT; at++) {
                 int pair = pairs[at];
                 int xNode = leftOf(pair);
                 int yNode = rightOf(pair);
@@ -1227,11 +1227,7 @@ public final class LoopTypes {
 
         private boolean takesBehind(int c) {
             switch (c) {
-                case '*':
-                    joinPairs();
-                    state = AT_ATOM;
-                    return pushOperator(c);
-                case '>':
+                case '*': case '>':
                     joinPairs();
                     state = AT_ATOM;
                     return pushOperator(c);
@@ -1264,10 +1260,12 @@ public final class LoopTypes {
             }
         }
 
+        /** No * stands ahead of a > of the same brackets any more: what is left binds from the right. */
         private void joinAll() {
-            joinPairs();
-            for (int round = 0; round < TEXT_LIMIT && topOperator() == '>'; round++) {
-                joinTwo(FUN);
+            int top = topOperator();
+            for (int round = 0; round < TEXT_LIMIT && (top == '*' || top == '>'); round++) {
+                joinTwo(top == '*' ? PAIR : FUN);
+                top = topOperator();
             }
         }
 

@@ -34,6 +34,9 @@ public final class ModelRuns {
             play(run);
         }
         checkSeen();
+        if (args.length > 0) {
+            new java.util.TreeMap<>(answers).forEach((what, often) -> System.out.println(what + ": " + often));
+        }
         System.out.println(wrong == 0 ? "model: all answers are as due" : "model: " + wrong + " answers are not as due");
         if (wrong != 0) {
             System.exit(1);
@@ -115,6 +118,10 @@ public final class ModelRuns {
             planText(planned);
         } else if (kind == 40 && oneIn(2)) {
             planTower(planned);
+        } else if (kind == 41) {
+            planLarge(planned);
+        } else if (kind == 42) {
+            planChains(planned);
         } else if (kind < 55) {
             planned.add(newType(style));
         } else if (kind < 96) {
@@ -143,6 +150,60 @@ public final class ModelRuns {
             planned.add(new int[] {0, c >= 'a' && c <= 'h' ? 'a' + (c - 'a' + at + 7) % 8 : c});
         }
         planned.add(new int[] {2});
+    }
+
+    /** Two loops of unlike lengths, which meet anew for a long time. */
+    private static void planChains(ArrayDeque<int[]> planned) {
+        StringBuilder text = new StringBuilder();
+        char by = oneIn(3) ? '>' : '*';
+        int seldom = 2 + below(9);
+        for (char name = 'a'; name < 'c'; name++) {
+            int length = 3 + below(9);
+            text.append(name).append('=');
+            for (int at = 0; at < length; at++) {
+                text.append(oneIn(seldom) ? '2' : '1').append(oneIn(20) ? '*' : by).append('(');
+            }
+            text.append(name).append(")".repeat(length)).append(';');
+        }
+        planned.add(new int[] {1});
+        for (int at = 0; at < text.length(); at++) {
+            planned.add(new int[] {0, text.charAt(at)});
+        }
+        planned.add(new int[] {2});
+        if (oneIn(3)) {
+            planned.add(new int[] {27, below(2), 6, below(2)});
+        }
+        int[][] calls = {{24, 0, 0, 1, 2}, {24, 1, 0, 1, 3}, {4, 0, 1}, {4, 1, 0}, {6, 0, 1, -1}, {6, 1, 0, -1},
+            {7, 0, 1, 1 + below(30)}, {6, 2, 0, -1}, {6, 0, 3, -1}, {6, 0, 1, below(30)}, {6, 1, 0, below(30)}};
+        planned.addAll(List.of(calls));
+    }
+
+    /** Most drawn types are small: this seeks one of at least ten unlike types. */
+    private static int wideSeed() {
+        LoopTypes probe = new LoopTypes();
+        for (int tries = 0; tries < 500; tries++) {
+            int seed = below(1000000);
+            if (probe.draw(seed, 12, 0) >= 10) {
+                return seed;
+            }
+        }
+        return 0;
+    }
+
+    /** Types that bounds, cuts and swaps make large, above SIZE 40 too. */
+    private static void planLarge(ArrayDeque<int[]> planned) {
+        int a = below(8);
+        int b = below(8);
+        for (int pairs = 0; pairs < 3; pairs++) {
+            planned.add(new int[] {28, wideSeed(), 12, a});
+            planned.add(new int[] {28, wideSeed(), 12, b});
+            planned.add(new int[] {24, below(2), a, b, below(8)});
+            planned.add(new int[] {24, below(2), a, b, b});
+            planned.add(new int[] {24, below(2), a, b, a});
+            planned.add(new int[] {26, b, 5 + below(5), below(8)});
+            planned.add(new int[] {22, a, 0, b});
+            planned.add(new int[] {25, below(8), b, below(8), below(8)});
+        }
     }
 
     private static int[] newType(int style) {

@@ -265,6 +265,15 @@ public final class Promises {
         type(z, "a=[a];");
         z.read();
         due(4, "a told by itself is not the old a", z.size(0), 1);
+        LoopTypes around = having("a=[b];b=c;c=d;d=e;e=f;f=g;g=h;h=a;");
+        for (int name = 0; name < 8; name++) {
+            due(4, "through seven letters to itself", around.code(name), 1085);
+        }
+        LoopTypes often = having("a=1*b;b=[2*(1>2)]*[a*a]*b;c=[a]*[b]*[[[a]]];");
+        for (int time = 0; time < 200; time++) {
+            due(4, "read, often", often.read(), 3);
+            due(4, "size of what is read often", often.size(2), 16);
+        }
         LoopTypes eight = having("a=1*b;b=2*c;c=3*d;d=0*e;e=1>f;f=2>g;g=[h];h=[[a]];");
         due(4, "eight equations: names", eight.told(6), 255);
         due(4, "eight equations: size", eight.size(0), 13);
@@ -346,6 +355,9 @@ public final class Promises {
         due(7, "heads", x.alike(5, 6), 0);
         x.order(3);
         due(7, "by another order", x.alike(0, 1), 1);
+        due(7, "a loop in part 1 alone", having("a=1*1;b=1*b;").alike(0, 1), 0);
+        due(7, "a loop in part 0 alone", having("a=1*1;b=b*1;").alike(0, 1), 0);
+        due(7, "loops in either part", having("a=1*a;b=b*1;").alike(0, 1), 0);
         due(7, "1*2 and 2*1", having("a=1*2;b=2*1;").alike(0, 1), 0);
         due(7, "[1] and [2]", having("a=[1];b=[2];").alike(0, 1), 0);
         due(7, "1 and 2", having("a=1;b=2;").alike(0, 1), 0);
@@ -589,6 +601,12 @@ public final class Promises {
         bad(23, "make(5, 0, 0, 8)", x, y -> y.make(5, 0, 0, 8));
         LoopTypes tower = tower(39);
         full(23, "make of SIZE 41", tower, y -> y.make(5, 0, 0, 0));
+        for (int time = 0; time < 100; time++) {
+            due(23, "make of SIZE 41, often", tower.make(6, 0, 0, 0), -4);
+        }
+        tower.base(1, 1);
+        due(23, "make behind those", tower.make(5, 1, 1, 2), 2);
+        due(23, "its code", tower.code(2), codeOf("1*1"));
         full(23, "make of SIZE 41 to another", tower, y -> y.make(4, 0, 0, 1));
         bad(23, "make of SIZE 41, but BAD", tower, y -> y.make(4, 0, 0, 8));
     }
@@ -708,6 +726,9 @@ public final class Promises {
         bad(28, "cut(0, 0, 8)", x, y -> y.cut(0, 0, 8));
         LoopTypes full = having("a=b*c;b=d>e;c=f*g;d=h*[a];e=[b]>a;f=c*f;g=d>g;h=e*1;");
         due(28, "a large cut", full.cut(0, 6, 1), 28);
+        for (int time = 0; time < 100; time++) {
+            due(28, "a large cut, often", full.cut(0, 6, 1), 28);
+        }
         full(28, "cut of SIZE above 40", full, y -> y.cut(0, 9, 0));
     }
 
