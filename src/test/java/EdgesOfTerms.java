@@ -16,6 +16,7 @@ public final class EdgesOfTerms {
         bytesThatStand();
         tooEarly();
         faultsInPlace();
+        readBehindFaults();
         toldAlready();
         lettersWithoutType();
         lettersAlone();
@@ -246,6 +247,29 @@ public final class EdgesOfTerms {
         }
     }
 
+    private static void readBehindFaults() {
+        Edges.sentence("FAULT: all stays: behind each one the next text is read as by a new object");
+        String[] faults = {"", "a", "a=", "a=1", "a=1*", "a=1>2*", "a=(", "a=[1*(2>", "a=((((1)", "a=[[[[1]]", "a=(1];", "a=1);",
+            "a=1>(2*3", "b=1;c=2;a=[3>", "a=h;", "a=[1*g]>h;", "a=a;", "b=c;c=b;", "a=1;a=2;", "h=1;g=2;f=3;e=0;d=1;c=2;b=3;a"};
+        String[] texts = {"a=1;", "b=[1]*2>3;", "c=(c*1)>[0];d=c;", "h=1*2*3;g=h;f=g;"};
+        LoopTypes x = new LoopTypes();
+        for (int at = 0; at < faults.length; at++) {
+            for (String text : texts) {
+                long fault = Edges.reading(faults[at]);
+                Edges.due("read of " + faults[at], Edges.reading(x, faults[at]), fault);
+                Edges.due("whether it is a FAULT", fault <= -10 ? 1 : 0, 1);
+                LoopTypes other = Edges.having(text);
+                Edges.due("read of " + text, Edges.reading(x, text), text.chars().filter(c -> c == ';').count());
+                int name = text.charAt(0) - 'a';
+                Edges.due("code of its first", x.code(name), other.code(name));
+                x.back();
+            }
+            Edges.answers(x, "told(3)", 0);
+            Edges.answers(x, "told(6)", 0);
+            x = new LoopTypes();
+        }
+    }
+
     /** A version and a name stand, then a text that has a FAULT. */
     private static LoopTypes halfRead(String text) {
         LoopTypes x = Edges.having("b=1;c=[b];", "c=[[b]];");
@@ -308,6 +332,11 @@ public final class EdgesOfTerms {
         Edges.due("the last two of eight", Edges.reading("a=b;b=c;c=d;d=e;e=f;f=g;g=h;h=g;"), -10 - 24);
         Edges.due("through brackets", Edges.reading("a=(b);b=((c));c=(((a)));"), -10);
         Edges.due("though it has a TYPE", Edges.reading(Edges.having("a=1;b=2;"), "b=a;a=b;"), -10);
+        Edges.sentence("by letters alone: not through a HEAD, though seven letters lead to it");
+        LoopTypes seven = Edges.having("a=[b];b=c;c=d;d=e;e=f;f=g;g=h;h=a;");
+        for (int name = 0; name < 8; name++) {
+            Edges.isType(seven, name, "[a]");
+        }
         Edges.sentence("by letters alone: not through a HEAD");
         for (String by : new String[] {"[a]", "a*1", "1*a", "a>1", "1>a"}) {
             Edges.due("read of " + by, Edges.reading("a=b;b=c;c=" + by + ";"), 3);
@@ -418,6 +447,10 @@ public final class EdgesOfTerms {
         Edges.sentence("the shortest row of STEPS (PART 0, PART 1)");
         steps(Edges.having("a=[[[2]]]*((1*2)*1);b=[[[1]]]*((1*1)*1);"), "101");
         steps(Edges.having("a=[[2]]*[[[2]]];b=[[1]]*[[[1]]];"), "000");
+        Edges.sentence("the shortest row of STEPS: PART 0 comes back to the claim itself");
+        steps(Edges.having("a=a*2;b=b*1;"), "1");
+        steps(Edges.having("a=(a*1)*2;b=(b*2)*1;"), "1");
+        steps(Edges.having("a=a*(a*2);b=b*(b*1);"), "11");
         Edges.sentence("of like lengths the one with 0 first");
         steps(Edges.having("a=2*2;b=1*1;"), "0");
         steps(Edges.having("a=(1*2)*(2*2);b=(1*1)*(1*1);"), "01");
